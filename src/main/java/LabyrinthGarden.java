@@ -315,14 +315,15 @@ public final class LabyrinthGarden {
         static final int TOLD_TWICE = 3;
         static final int NOT_TOLD = 4;
 
+        /** Kinds of TOKENS, a bit each, so that several may stand at one place. */
         static final int NO_TOKEN = 0;
         static final int TEXT_END = 1;
         static final int STATE = 2;
-        static final int NUMBER = 3;
-        static final int DEED = 4;
-        static final int COLON = 5;
-        static final int BAR = 6;
-        static final int SEMICOLON = 7;
+        static final int NUMBER = 4;
+        static final int DEED = 8;
+        static final int COLON = 16;
+        static final int BAR = 32;
+        static final int SEMICOLON = 64;
 
         static final int WORD_STAY = 's' << 24 | 't' << 16 | 'a' << 8 | 'y';
         static final int WORD_TAKE = 't' << 24 | 'a' << 16 | 'k' << 8 | 'e';
@@ -354,44 +355,36 @@ public final class LabyrinthGarden {
             meantCount = 0;
             into.clear();
             // A line more than there are STATES has a STATE that was told: it ends by a FAULT.
-            for (int line = 0; line <= Rules.MOST_STATES && fault == NO_FAULT; line++) {
-                nextToken();
-                if (token == TEXT_END) {
+            for (int line = 0; line <= Rules.MOST_STATES; line++) {
+                if (!takes(STATE | TEXT_END) || token == TEXT_END || !readLine(into)) {
                     break;
                 }
-                readLine(into);
             }
             if (fault == NO_FAULT) {
                 findNotTold(into);
             }
         }
 
-        private void readLine(Rules into) {
-            if (!tokenIs(STATE)) {
-                return;
-            }
+        /** Reads on behind a line's STATE; false with a FAULT. */
+        private boolean readLine(Rules into) {
             int state = tokenValue;
             if (hasBit(into.told, state)) {
                 fail(TOLD_TWICE, tokenAt);
-                return;
+                return false;
             }
             into.addLine(state);
-            if (!nextTokenIs(COLON) || !readAct(into, 2 * state)) {
-                return;
+            if (!takes(COLON) || !readAct(into, 2 * state) || !takes(BAR | SEMICOLON)) {
+                return false;
             }
-            nextToken();
-            if (token == BAR) {
-                into.forked = withBit(into.forked, state, true);
-                if (!readAct(into, 2 * state + 1)) {
-                    return;
-                }
-                nextToken();
+            if (token == SEMICOLON) {
+                return true;
             }
-            tokenIs(SEMICOLON);
+            into.forked = withBit(into.forked, state, true);
+            return readAct(into, 2 * state + 1) && takes(SEMICOLON);
         }
 
         private boolean readAct(Rules into, int act) {
-            if (!nextTokenIs(NUMBER)) {
+            if (!takes(NUMBER)) {
                 return false;
             }
             if (tokenValue > 9) {
@@ -399,11 +392,11 @@ public final class LabyrinthGarden {
                 return false;
             }
             into.number[act] = tokenValue;
-            if (!nextTokenIs(DEED)) {
+            if (!takes(DEED)) {
                 return false;
             }
             into.deed[act] = tokenValue;
-            if (!nextTokenIs(STATE)) {
+            if (!takes(STATE)) {
                 return false;
             }
             into.next[act] = tokenValue;
@@ -429,20 +422,8 @@ public final class LabyrinthGarden {
             faultAt = at;
         }
 
-        private boolean tokenIs(int kind) {
-            if (token == kind) {
-                return true;
-            }
-            fail(WRONG_TOKEN, tokenAt);
-            return false;
-        }
-
-        private boolean nextTokenIs(int kind) {
-            nextToken();
-            return tokenIs(kind);
-        }
-
-        private void nextToken() {
+        /** Takes the next TOKEN; false, and a FAULT, if it is none of these kinds. */
+        private boolean takes(int kinds) {
             while (position < length && isBlank(text[position])) {
                 position++;
             }
@@ -457,6 +438,11 @@ public final class LabyrinthGarden {
                 token = signOf(text[position]);
                 position++;
             }
+            if ((token & kinds) == 0) {
+                fail(WRONG_TOKEN, tokenAt);
+                return false;
+            }
+            return true;
         }
 
         private void takeNumber() {
@@ -831,36 +817,30 @@ public final class LabyrinthGarden {
         int seek(int what) {
             lostLately = 0;
             if (saves(what, 0)) {
-                keptCount = 0;
-                return 0;
+                return keep(0, NONE, NONE);
             }
             int all = what == TO_MARK ? garden.junctions : garden.paths;
             int taken = what == TO_MARK ? garden.marks : garden.shuts;
             for (int a = 0; a < all; a++) {
                 if (!hasBit(taken, a) && saves(what, 1 << a)) {
-                    kept[0] = a;
-                    keptCount = 1;
-                    return 1;
+                    return keep(1, a, NONE);
                 }
             }
             for (int a = 0; a < all; a++) {
-                if (!hasBit(taken, a) && savesWithLater(what, a, taken, all)) {
-                    return 2;
+                for (int b = a + 1; b < all; b++) {
+                    if (!hasBit(taken, a) && !hasBit(taken, b) && saves(what, 1 << a | 1 << b)) {
+                        return keep(2, a, b);
+                    }
                 }
             }
             return NONE;
         }
 
-        private boolean savesWithLater(int what, int a, int taken, int all) {
-            for (int b = a + 1; b < all; b++) {
-                if (!hasBit(taken, b) && saves(what, 1 << a | 1 << b)) {
-                    kept[0] = a;
-                    kept[1] = b;
-                    keptCount = 2;
-                    return true;
-                }
-            }
-            return false;
+        private int keep(int many, int first, int second) {
+            keptCount = many;
+            kept[0] = first;
+            kept[1] = second;
+            return many;
         }
 
         private boolean saves(int what, int set) {
@@ -940,6 +920,9 @@ public final class LabyrinthGarden {
         private final int[] beyond = new int[TURNS_TO_TRY * WIDTH];
         private final int[] turns = new int[MOST_TURNS];
 
+        /** By how many TURNS a TALE has, and by PLACE: the PLACES that no such TALE tells from it, itself too. */
+        private final int[] twins = new int[(MOST_TURNS + 1) * WIDTH];
+
         /** By how many TURNS are made, and by PLACE where one began: where one is; which beginnings look the same. */
         private final int[] at = new int[(MOST_TURNS + 1) * WIDTH];
         private final int[] alike = new int[(MOST_TURNS + 1) * WIDTH];
@@ -956,6 +939,7 @@ public final class LabyrinthGarden {
             if (least == NONE) {
                 return NONE;
             }
+            begin();
             for (int length = least; length <= MOST_TURNS; length++) {
                 if (tellsWith(length)) {
                     System.arraycopy(turns, 0, kept, 0, length);
@@ -989,81 +973,109 @@ public final class LabyrinthGarden {
             return true;
         }
 
-        private void begin() {
-            unsure[0] = 0;
-            for (int place = 0; place < garden.places; place++) {
-                int same = garden.placesWithEnds(garden.endsAt(place));
-                at[place] = place;
-                alike[place] = same;
-                if (same != 1 << place) {
-                    unsure[0] |= 1 << place;
-                }
-            }
-        }
-
-        /** With fewer TURNS some two PLACES look the same by every TALE; NONE if that is so with the most, too. */
+        /** With fewer TURNS some PLACE has a twin; NONE if that is so with the most, too. */
         private int leastTurns() {
-            begin();
+            for (int place = 0; place < garden.places; place++) {
+                twins[place] = garden.placesWithEnds(garden.endsAt(place));
+            }
+            for (int made = 0; made < MOST_TURNS; made++) {
+                partTwins(made * WIDTH);
+            }
             for (int made = 0; made <= MOST_TURNS; made++) {
-                if (unsure[made] == 0) {
+                if (!hasTwins(made * WIDTH)) {
                     return made;
-                }
-                if (made < MOST_TURNS) {
-                    partByEveryTurn(made);
                 }
             }
             return NONE;
         }
 
-        private void partByEveryTurn(int made) {
-            int from = made * WIDTH;
-            int to = from + WIDTH;
-            unsure[made + 1] = 0;
+        private boolean hasTwins(int row) {
             for (int place = 0; place < garden.places; place++) {
-                int same = alike[from + place];
-                for (int other = 0; other < garden.places; other++) {
-                    if (other != place && hasBit(same, other) && anyTurnParts(place, other, from)) {
-                        same = withBit(same, other, false);
-                    }
-                }
-                alike[to + place] = same;
-                if (same != 1 << place) {
-                    unsure[made + 1] |= 1 << place;
-                }
-            }
-        }
-
-        private boolean anyTurnParts(int place, int other, int from) {
-            for (int turn = 0; turn < turnsToTry; turn++) {
-                int row = turn * WIDTH;
-                if (!hasBit(alike[from + beyond[row + place]], beyond[row + other])) {
+                if (twins[row + place] != 1 << place) {
                     return true;
                 }
             }
             return false;
         }
 
-        /** Goes through the TALES of a length in their order; what a TALE shares with the one ahead isn't made anew. */
+        private void partTwins(int row) {
+            for (int place = 0; place < garden.places; place++) {
+                int same = twins[row + place];
+                for (int other = 0; other < garden.places; other++) {
+                    if (other != place && hasBit(same, other) && anyTurnParts(place, other, row)) {
+                        same = withBit(same, other, false);
+                    }
+                }
+                twins[row + WIDTH + place] = same;
+            }
+        }
+
+        private boolean anyTurnParts(int place, int other, int row) {
+            for (int turn = 0; turn < turnsToTry; turn++) {
+                int to = turn * WIDTH;
+                if (!hasBit(twins[row + beyond[to + place]], beyond[to + other])) {
+                    return true;
+                }
+            }
+            return false;
+        }
+
+        private void begin() {
+            unsure[0] = 0;
+            for (int place = 0; place < garden.places; place++) {
+                at[place] = place;
+                alike[place] = twins[place];
+                unsure[0] = withBit(unsure[0], place, twins[place] != 1 << place);
+            }
+        }
+
+        /**
+         * Goes through the TALES of a length in their order; what a TALE shares with the one ahead isn't made anew, and
+         * where some beginnings can't be told apart any more, all that begin so are left out.
+         */
         private boolean tellsWith(int length) {
             for (int i = 0; i < length; i++) {
                 turns[i] = 0;
             }
-            int changed = 0;
-            for (int tales = 0; tales < MOST_TALES && changed != NONE; tales++) {
-                for (int made = changed; made < length; made++) {
+            int made = 0;
+            for (int tales = 0; tales < MOST_TALES && made != NONE; tales++) {
+                boolean hope = true;
+                while (made < length && hope) {
                     makeTurn(made);
+                    made++;
+                    hope = !isHopeless(made, length - made);
                 }
-                if (unsure[length] == 0) {
+                if (hope) {
                     return true;
                 }
-                changed = nextTale(length);
+                made = nextTale(made);
             }
             return false;
         }
 
-        /** The index of the first TURN that is another one then; NONE behind the last TALE. */
-        private int nextTale(int length) {
-            for (int i = length - 1; i >= 0; i--) {
+        /** Whether two beginnings that look the same lead to PLACES that no TURNS that are left tell apart. */
+        private boolean isHopeless(int made, int left) {
+            int row = made * WIDTH;
+            for (int start = 0; start < garden.places; start++) {
+                if (hasBit(unsure[made], start) && meetsTwin(row, start, twins[left * WIDTH + at[row + start]])) {
+                    return true;
+                }
+            }
+            return false;
+        }
+
+        private boolean meetsTwin(int row, int start, int twinsThere) {
+            for (int other = start + 1; other < garden.places; other++) {
+                if (hasBit(alike[row + start], other) && hasBit(twinsThere, at[row + other])) {
+                    return true;
+                }
+            }
+            return false;
+        }
+
+        /** The next TALE that differs in its first TURNS: which is the first other one; NONE behind the last TALE. */
+        private int nextTale(int firstTurns) {
+            for (int i = firstTurns - 1; i >= 0; i--) {
                 if (turns[i] + 1 < turnsToTry) {
                     turns[i]++;
                     return i;
@@ -1092,9 +1104,7 @@ public final class LabyrinthGarden {
                 if (hasBit(unsure[made], start)) {
                     int same = alike[from + start] & seen[garden.endsAt(at[to + start])];
                     alike[to + start] = same;
-                    if (same != 1 << start) {
-                        unsure[made + 1] |= 1 << start;
-                    }
+                    unsure[made + 1] = withBit(unsure[made + 1], start, same != 1 << start);
                 }
             }
         }

@@ -49,7 +49,7 @@ public final class ModelTest {
         for (int i = 0; i < LIMITS.length; i++) {
             new Run(-1 - i).goToLimit(LIMITS[i], ANSWERS_AT_LIMITS[i]);
         }
-        for (int run = from; run < from + runs && wrong < 20; run++) {
+        for (int run = from; run < from + runs && wrong < 3; run++) {
             if (run % 10 == 9) {
                 new Run(run).goFar();
             } else {
