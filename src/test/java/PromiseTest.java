@@ -214,6 +214,8 @@ public final class PromiseTest {
         faulty("A:1stay a;", 1, 0);
         faulty("a:1Stay a;", 1, 3);
         faulty("a:1stays a;", 1, 3);
+        faulty("a:1xstay a;", 1, 3);
+        faulty("a:1staystay a;", 1, 3);
         faulty("a:1sta a;", 1, 3);
         faulty("a:1 s a;", 1, 4);
         faulty("a:1staya;", 1, 3);
