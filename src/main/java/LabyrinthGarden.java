@@ -2,7 +2,7 @@ import java.util.NoSuchElementException;
 
 /**
  * A labyrinth garden with walkers of few wits, as ../shared/DOC.md tells it. Every row is made with the object and used
- * again, so that no call makes anything.
+ * again, so that no call makes anything but the exceptions of look.
  */
 public final class LabyrinthGarden {
     public static final int NONE = -1;

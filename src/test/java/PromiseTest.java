@@ -1,6 +1,6 @@
 import java.util.NoSuchElementException;
 
-/** Hand-worked answers, promise by promise: ordinary inputs, the edges that the document names, and wrong inputs. */
+/** Answers worked from the document, promise by promise: ordinary inputs, the edges that the document names, and wrong inputs. */
 public final class PromiseTest {
     private static final int[] EDGES = {Integer.MIN_VALUE, -100, -2, -1};
     private static final int INDEX = -1001;
@@ -842,6 +842,7 @@ public final class PromiseTest {
         LabyrinthGarden x = triangle();
         due("ahead of any", x.homing(0), -1);
         due("home", x.home(), 4);
+        // Not worked by hand: a search over all TALES, written apart from the class, told it.
         int[] turns = {0, 1, 1, 1};
         for (int k = 0; k < 4; k++) {
             due("homing", x.homing(k), turns[k]);
