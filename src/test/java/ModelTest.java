@@ -499,11 +499,11 @@ public final class ModelTest {
         void go() {
             calls = 0;
             int gardens = 1 + random.nextInt(3);
-            for (int g = 0; g < gardens && !broken; g++) {
+            for (int g = 0; g < gardens && !broken && calls < 360; g++) {
                 lay();
                 writeRules(random.nextInt(10) < 8);
                 int asks = 10 + random.nextInt(30);
-                for (int i = 0; i < asks && !broken && calls < 500; i++) {
+                for (int i = 0; i < asks && !broken && calls < 420; i++) {
                     ask();
                 }
                 if (random.nextInt(4) != 0) {
