@@ -568,6 +568,21 @@ public final class BoundaryTest {
         faulty("a:1stay b|2stay c;b:1stay a;", 4, 16);
         faulty("a:1stay a;b:1stay c|1stay d;", 4, 18);
         faulty("a:1stay d;b:1stay c;c:1stay d;", 4, 8);
+        sentence("a FAULT is of this text, whatever was read ahead of it");
+        String[] ahead = {"", " ", "a:1stay a;", "a", "a:", "a:1", "a:1stay", "a:1stay a", "a:1stay a|", "a:1stay b;", "a:10", "?"};
+        for (String earlier : ahead) {
+            for (String text : new String[] {"zz", "e", "abc:1stay a;", "?", ":", "1", "stay"}) {
+                LabyrinthGarden y = new LabyrinthGarden();
+                read(y, earlier);
+                due("<" + text + "> behind <" + earlier + ">", read(y, text), -1);
+                due("fault", y.fault(0) * 100 + y.fault(1), 100);
+            }
+            LabyrinthGarden y = new LabyrinthGarden();
+            read(y, earlier);
+            due("<b:1stay b;> behind <" + earlier + ">", read(y, "b:1stay b;"), 1);
+            due("fault", y.fault(0) * 100 + y.fault(1), -1);
+            due("lines", y.count(5), 1);
+        }
         sentence("Of the latest rules() that was not -2");
         LabyrinthGarden x = new LabyrinthGarden();
         read(x, "a:10");
