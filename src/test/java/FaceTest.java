@@ -6,6 +6,7 @@ import java.nio.charset.StandardCharsets;
 import java.nio.file.Files;
 import java.nio.file.Path;
 import java.util.Arrays;
+import java.util.List;
 import java.util.Set;
 import java.util.TreeSet;
 import java.util.regex.Matcher;
@@ -32,6 +33,7 @@ public final class FaceTest {
         checkFace();
         checkClassesInside();
         checkText();
+        checkLengths();
         System.out.println(wrong == 0 ? "the face is as due" : wrong + " faults");
         if (wrong != 0) {
             System.exit(1);
@@ -118,5 +120,20 @@ public final class FaceTest {
         while (imports.find()) {
             need(imports.group(1).equals("java.util.NoSuchElementException"), "no import of " + imports.group(1));
         }
+    }
+
+    /** A method ends where a brace stands below its first sign. */
+    private static void checkLengths() throws Exception {
+        List<String> lines = Files.readAllLines(Path.of("src/main/java/LabyrinthGarden.java"), StandardCharsets.ISO_8859_1);
+        int methods = 0;
+        for (int i = 0; i < lines.size(); i++) {
+            Matcher head = Pattern.compile("( {4}| {8})\\w.*\\).* \\{").matcher(lines.get(i));
+            if (head.matches()) {
+                methods++;
+                int length = lines.subList(i, lines.size()).indexOf(head.group(1) + "}") + 1;
+                need(length > 0 && length <= 60, lines.get(i).trim() + " has sixty lines at most");
+            }
+        }
+        need(methods > 22, "the methods were found");
     }
 }
